@@ -29,6 +29,7 @@ public final class KeptMoving {
     private final Line line;
     private final int[] bends;
     private int bendCount;
+    private final Scene scene;
     private final Meetings meetings;
     private final Stretch stretch;
     private final Crowd crowd;
@@ -41,6 +42,7 @@ public final class KeptMoving {
         }
         line = new Line();
         bends = new int[MOST_BENDS];
+        scene = new Scene();
         meetings = new Meetings();
         stretch = new Stretch();
         crowd = new Crowd();
@@ -233,7 +235,7 @@ public final class KeptMoving {
         gatherBends(end);
         for (int b = 0; b < bendCount; b++) {
             openStretch(b);
-            keepNear(courses[i], courses[j], width);
+            keepNear(i, j, width);
             spans.addIfSo(stretch);
         }
         return spans.tell(what);
@@ -250,7 +252,7 @@ public final class KeptMoving {
         gatherBends(end);
         for (int b = 0; b < bendCount; b++) {
             openStretch(b);
-            keepFirst(courses[i]);
+            keepFirst(i);
             spans.addIfSo(stretch);
         }
         return spans.tell(what);
@@ -263,7 +265,8 @@ public final class KeptMoving {
         spans.seek(k);
         gatherBends(end);
         for (int b = 0; b < bendCount; b++) {
-            gatherCrowd(b, low, high);
+            openStretch(b);
+            gatherCrowd(low, high);
             addCrowded(m);
         }
         return spans.tell(what);
@@ -354,12 +357,20 @@ public final class KeptMoving {
         return NONE;
     }
 
+    private void look(int time) {
+        scene.clear();
+        for (int i = 0; i < came; i++) {
+            scene.add(courses[i], time);
+        }
+    }
+
     /** Gathers the meetings above from, up to until; no law may change between the two. */
     private void gatherMeetings(int from, int until) {
         meetings.clear();
+        look(from);
         for (int i = 0; i < came; i++) {
             for (int j = i + 1; j < came; j++) {
-                if (areThere(courses[i], courses[j], from)) {
+                if (scene.has(i) && scene.has(j)) {
                     addMeeting(i, j, from, until);
                 }
             }
@@ -367,10 +378,8 @@ public final class KeptMoving {
     }
 
     private void addMeeting(int i, int j, int from, int until) {
-        Course one = courses[i];
-        Course other = courses[j];
-        int gap = other.placeAt(from) - one.placeAt(from);
-        int growth = other.speedAt(from) - one.speedAt(from);
+        int gap = scene.gap(i, j);
+        int growth = scene.growth(i, j);
         boolean theyClose = gap < 0 && growth > 0 || gap > 0 && growth < 0;
         if (!theyClose) {
             return;
@@ -379,70 +388,58 @@ public final class KeptMoving {
         int side = Fraction.compare(time, Fraction.whole(until));
         if (side < 0) {
             meetings.insert(time, i, j, true);
-        } else if (side == 0 && areThere(one, other, until)) {
-            int growthBehind = other.speedAt(until) - one.speedAt(until);
-            meetings.insert(time, i, j, growth * growthBehind > 0);
+        } else if (side == 0) {
+            addMeetingAtBend(i, j, until, growth);
         }
     }
 
-    private static boolean areThere(Course one, Course other, int time) {
-        return one.isThere(time, 1) && other.isThere(time, 1);
+    /** Who goes at a bend is not there any more, and other laws may hold behind it. */
+    private void addMeetingAtBend(int i, int j, int time, int growthAhead) {
+        Course one = courses[i];
+        Course other = courses[j];
+        if (one.isThere(time, 1) && other.isThere(time, 1)) {
+            int growthBehind = other.speedAt(time) - one.speedAt(time);
+            meetings.insert(Fraction.whole(time), i, j, growthAhead * growthBehind > 0);
+        }
     }
 
     /** Behind the last bend only that time itself is left: a stretch without length. */
     private void openStretch(int b) {
+        look(bends[b]);
         stretch.open(bends[b], b + 1 < bendCount ? bends[b + 1] : bends[b]);
     }
 
-    private void keepNear(Course one, Course other, int width) {
-        int from = stretch.from;
-        if (!areThere(one, other, from)) {
+    private void keepNear(int i, int j, int width) {
+        if (!scene.has(i) || !scene.has(j)) {
             stretch.keepNothing();
             return;
         }
-        int gap = other.placeAt(from) - one.placeAt(from);
-        int growth = other.speedAt(from) - one.speedAt(from);
-        stretch.keepAtMost(gap, growth, width);
-        stretch.keepAtMost(-gap, -growth, width);
+        stretch.keepAtMost(scene.gap(i, j), scene.growth(i, j), width);
+        stretch.keepAtMost(scene.gap(j, i), scene.growth(j, i), width);
     }
 
-    private void keepFirst(Course course) {
-        int from = stretch.from;
-        if (!course.isThere(from, 1)) {
+    private void keepFirst(int i) {
+        if (!scene.has(i)) {
             stretch.keepNothing();
             return;
         }
-        int place = course.placeAt(from);
-        int speed = course.speedAt(from);
         for (int j = 0; j < came; j++) {
-            Course other = courses[j];
-            if (other.isThere(from, 1)) {
-                stretch.keepAtMost(other.placeAt(from) - place, other.speedAt(from) - speed, 0);
+            if (scene.has(j)) {
+                stretch.keepAtMost(scene.gap(i, j), scene.growth(i, j), 0);
             }
         }
     }
 
-    private void gatherCrowd(int b, int low, int high) {
+    private void gatherCrowd(int low, int high) {
         crowd.clear();
         for (int i = 0; i < came; i++) {
-            openStretch(b);
-            keepWindow(courses[i], low, high);
-            if (stretch.isSo()) {
-                crowd.insert(stretch.begin, stretch.end);
+            if (scene.has(i)) {
+                stretch.keepAll();
+                stretch.keepAtMost(scene.places[i], scene.speeds[i], high);
+                stretch.keepAtMost(-scene.places[i], -scene.speeds[i], -low);
+                crowd.addIfSo(stretch);
             }
         }
-    }
-
-    private void keepWindow(Course course, int low, int high) {
-        int from = stretch.from;
-        if (!course.isThere(from, 1)) {
-            stretch.keepNothing();
-            return;
-        }
-        int place = course.placeAt(from);
-        int speed = course.speedAt(from);
-        stretch.keepAtMost(place, speed, high);
-        stretch.keepAtMost(-place, -speed, -low);
     }
 
     /** Goes through the crowd's begins and ends in time; begins before like ends, for who leaves is still in at that time. */
@@ -607,6 +604,42 @@ public final class KeptMoving {
         }
     }
 
+    /** Who is there at one whole time, where, and with which SPEED from then on. */
+    private static final class Scene {
+        private final boolean[] isThere = new boolean[MOST_POINTS];
+        private final int[] places = new int[MOST_POINTS];
+        private final int[] speeds = new int[MOST_POINTS];
+        private int size;
+
+        private void clear() {
+            size = 0;
+        }
+
+        private void add(Course course, int time) {
+            if (size >= MOST_POINTS) {
+                return;
+            }
+            isThere[size] = course.isThere(time, 1);
+            places[size] = course.placeAt(time);
+            speeds[size] = course.speedAt(time);
+            size++;
+        }
+
+        private boolean has(int i) {
+            return i >= 0 && i < size && isThere[i];
+        }
+
+        /** How far j stands above i. */
+        private int gap(int i, int j) {
+            return places[j] - places[i];
+        }
+
+        /** How fast that grows. */
+        private int growth(int i, int j) {
+            return speeds[j] - speeds[i];
+        }
+    }
+
     /** The ORDER at one MOMENT. */
     private static final class Line {
         private final int[] numbers = new int[MOST_POINTS];
@@ -724,7 +757,11 @@ public final class KeptMoving {
         private void open(int first, int last) {
             from = first;
             until = Fraction.whole(last);
-            begin = Fraction.whole(first);
+            keepAll();
+        }
+
+        private void keepAll() {
+            begin = Fraction.whole(from);
             end = until;
             isNothing = false;
         }
@@ -763,16 +800,15 @@ public final class KeptMoving {
             size = 0;
         }
 
-        private void insert(long begin, long end) {
-            if (size >= MOST_POINTS) {
-                return;
+        private void addIfSo(Stretch stretch) {
+            if (size < MOST_POINTS && stretch.isSo()) {
+                insert(begins, stretch.begin);
+                insert(ends, stretch.end);
+                size++;
             }
-            insertInto(begins, begin);
-            insertInto(ends, end);
-            size++;
         }
 
-        private void insertInto(long[] row, long time) {
+        private void insert(long[] row, long time) {
             int spot = size;
             while (spot > 0 && Fraction.compare(row[spot - 1], time) > 0) {
                 row[spot] = row[spot - 1];

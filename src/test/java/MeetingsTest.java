@@ -14,6 +14,7 @@ final class MeetingsTest {
         theNext();
         theFarthest();
         allPairsManyTimes();
+        whateverWasAskedBefore();
         refusals();
         CHECK.end();
     }
@@ -165,6 +166,23 @@ final class MeetingsTest {
         CHECK.dueText("the 46th of all", Snapshot.meeting(x, 45), "3/2 0 1");
         CHECK.dueText("the last of all", Snapshot.meeting(x, 359), "15/2 8 9");
         CHECK.dueText("none behind the last", Snapshot.meeting(x, 360), NO_MEETING);
+    }
+
+    /** What was foretold for the spans is not of the PAST. */
+    private static void whateverWasAskedBefore() {
+        KeptMoving x = new KeptMoving();
+        x.point(0, 1);
+        x.point(9, 0);
+        x.go(1);
+        x.speed(1, 1);
+        x.go(1);
+        x.speed(1, 0);
+        x.go(1);
+        CHECK.dueText("near, foretold", Snapshot.near(x, 0, 1, 0, 600), "1: 10/1-10/1");
+        past("with none yet", x, 0, "0:");
+        x.back(2);
+        past("after back", x, 0, "0:");
+        CHECK.dueText("meeting 0 of none", Snapshot.meeting(x, 0), NO_MEETING);
     }
 
     private static void refusals() {
