@@ -27,9 +27,9 @@ final class Check {
     }
 
     /** A call that is refused answers so, and changes nothing that can be asked. */
-    void refused(String call, KeptMoving x, ToLongFunction<KeptMoving> asking, long want) {
+    void refused(String call, Subject x, ToLongFunction<KeptMoving> asking, long want) {
         String before = Snapshot.of(x);
-        due(call, asking.applyAsLong(x), want);
+        due(call, x.done(asking), want);
         dueText("all there is to ask after the refused " + call, Snapshot.of(x), before);
     }
 

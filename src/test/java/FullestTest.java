@@ -6,7 +6,7 @@ final class FullestTest {
 
     private static final Check CHECK = new Check("FullestTest");
 
-    private final KeptMoving program = new KeptMoving();
+    private final Subject program = new Subject();
     private final Reference reference = new Reference();
 
     public static void main(String[] args) {
@@ -38,8 +38,10 @@ final class FullestTest {
         askPoints();
         for (int i = 0; i < POINTS; i++) {
             step();
-            CHECK.refused("a 9th PIECE of " + i, program, x -> x.speed(0, 1), i == 0 ? FULL : KeptMoving.NOT);
+            int number = i;
+            CHECK.refused("a 9th PIECE of " + i, program, x -> x.speed(number, 1), FULL);
             CHECK.due("gone " + i, program.gone(i), reference.gone(i));
+            CHECK.refused("a 9th PIECE of " + i + ", GONE", program, x -> x.speed(number, 1), KeptMoving.NOT);
         }
         CHECK.refused("an 11th POINT", program, x -> x.point(0, 0), FULL);
     }

@@ -15,22 +15,26 @@ final class MeetingsTest {
         theFarthest();
         allPairsManyTimes();
         whateverWasAskedBefore();
+        goneLater();
+        comesJustThen();
+        aboveOrBelowAhead();
+        atTheLastNow();
         refusals();
         CHECK.end();
     }
 
-    private static void past(String when, KeptMoving x, int passes, String want) {
+    private static void past(String when, Subject x, int passes, String want) {
         CHECK.dueText("meetings " + when, Snapshot.meetings(x), want);
         CHECK.due("passes " + when, x.count(4), passes);
     }
 
-    private static void next(String when, KeptMoving x, String want) {
+    private static void next(String when, Subject x, String want) {
         CHECK.dueText("the next meeting " + when, Snapshot.meeting(x, NONE), want);
     }
 
     /** By MOMENTS, those of one MOMENT by i, then j; a MOMENT in least terms. */
     private static void ordered() {
-        KeptMoving x = new KeptMoving();
+        Subject x = new Subject();
         x.point(6, 0);
         x.point(0, 2);
         x.point(12, -2);
@@ -46,7 +50,7 @@ final class MeetingsTest {
     }
 
     private static void onlyWhatWasUnlikeRightAhead() {
-        KeptMoving x = new KeptMoving();
+        Subject x = new Subject();
         x.point(5, 0);
         x.point(5, 1);
         past("come at one PLACE", x, 0, "0:");
@@ -60,7 +64,7 @@ final class MeetingsTest {
     }
 
     private static void onlyWhileBothAreThere() {
-        KeptMoving x = new KeptMoving();
+        Subject x = new Subject();
         x.point(0, 1);
         x.point(5, 0);
         x.point(10, -2);
@@ -81,7 +85,7 @@ final class MeetingsTest {
 
     /** A MEETING at which laws change is one, told once, whatever comes behind it. */
     private static void turnsAndTogether() {
-        KeptMoving x = new KeptMoving();
+        Subject x = new Subject();
         x.point(0, 1);
         x.point(4, 0);
         x.go(4);
@@ -110,7 +114,7 @@ final class MeetingsTest {
     }
 
     private static void theNext() {
-        KeptMoving x = new KeptMoving();
+        Subject x = new Subject();
         next("without points", x, NO_MEETING);
         x.point(0, 50);
         next("with one", x, NO_MEETING);
@@ -132,7 +136,7 @@ final class MeetingsTest {
 
     /** No PLACE at NOW is farther than 21000 from 0: so 42400 is the latest MOMENT there can be. */
     private static void theFarthest() {
-        KeptMoving x = new KeptMoving();
+        Subject x = new Subject();
         x.point(-1000, -50);
         x.point(1000, 50);
         for (int step = 0; step < 4; step++) {
@@ -149,7 +153,7 @@ final class MeetingsTest {
 
     /** Ten points that all turn back and forth: every pair meets in every stretch, 45 times seven. */
     private static void allPairsManyTimes() {
-        KeptMoving x = new KeptMoving();
+        Subject x = new Subject();
         for (int i = 0; i < 10; i++) {
             x.point(i, -2 * i);
         }
@@ -170,7 +174,7 @@ final class MeetingsTest {
 
     /** What was foretold for the spans is not of the PAST. */
     private static void whateverWasAskedBefore() {
-        KeptMoving x = new KeptMoving();
+        Subject x = new Subject();
         x.point(0, 1);
         x.point(9, 0);
         x.go(1);
@@ -186,7 +190,7 @@ final class MeetingsTest {
     }
 
     private static void refusals() {
-        KeptMoving x = new KeptMoving();
+        Subject x = new Subject();
         x.point(0, 1);
         x.point(1, 0);
         x.go(1);
@@ -198,5 +202,83 @@ final class MeetingsTest {
         CHECK.dueText("meeting -2", Snapshot.meeting(x, -2), NO_MEETING);
         CHECK.dueText("meeting least", Snapshot.meeting(x, Integer.MIN_VALUE), NO_MEETING);
         CHECK.dueText("meeting most", Snapshot.meeting(x, Integer.MAX_VALUE), NO_MEETING);
+    }
+
+    /** Who is GONE at the MOMENT itself met nobody then; who is GONE at the next NOW did. Here a law changes then, too. */
+    private static void goneLater() {
+        for (int who = 0; who <= 1; who++) {
+            Subject x = new Subject();
+            x.point(0, 1);
+            x.point(4, 0);
+            x.go(4);
+            x.speed(1 - who, who == 0 ? -2 : 3);
+            past("at the MOMENT", x, 1, "1: 4/1 0 1");
+            x.gone(who);
+            past("GONE at the MOMENT", x, 0, "0:");
+            x.back(0);
+            x.speed(1 - who, who == 0 ? -2 : 3);
+            x.go(1);
+            x.gone(who);
+            past("GONE one later", x, 1, "1: 4/1 0 1");
+            x.go(100);
+            past("GONE long since", x, 1, "1: 4/1 0 1");
+        }
+    }
+
+    /** Right ahead of the MOMENT both must be there: who comes just then has met nobody, who came one before has. */
+    private static void comesJustThen() {
+        Subject x = new Subject();
+        x.point(0, 2);
+        x.go(4);
+        x.point(10, 0);
+        x.go(1);
+        x.point(10, -1);
+        past("at 5", x, 1, "1: 5/1 0 1");
+        next("at 5", x, NO_MEETING);
+        x.go(10);
+        past("at 15", x, 1, "1: 5/1 0 1");
+    }
+
+    /** i is the lower number, whoever is ahead; it is a PASS only if the other one is ahead behind it. */
+    private static void aboveOrBelowAhead() {
+        for (int side = -1; side <= 1; side += 2) {
+            Subject x = new Subject();
+            x.point(0, 0);
+            x.point(6 * side, -2 * side);
+            next("from the side " + side, x, "3/1 0 1");
+            x.go(3);
+            past("gone on", x, 1, "1: 3/1 0 1");
+            x.speed(1, -side);
+            past("gone on slower", x, 1, "1: 3/1 0 1");
+            x.speed(1, 0);
+            past("stopped there", x, 0, "1: 3/1 0 1");
+            x.speed(1, side);
+            past("turned", x, 0, "1: 3/1 0 1");
+            x.speed(0, 2 * side);
+            past("turned, and the other one, too, faster", x, 1, "1: 3/1 0 1");
+            x.speed(0, side);
+            past("going on together", x, 0, "1: 3/1 0 1");
+        }
+    }
+
+    /** At 400 nothing is above NOW but what is FORETOLD. */
+    private static void atTheLastNow() {
+        Subject x = new Subject();
+        x.point(0, 1);
+        x.point(400, 0);
+        x.point(401, -50);
+        x.speed(2, 0);
+        for (int step = 0; step < 4; step++) {
+            x.go(100);
+        }
+        past("at 400", x, 1, "1: 400/1 0 1");
+        next("at 400", x, "401/1 0 2");
+        x.speed(2, -49);
+        next("by the laws as they are", x, "20001/50 0 2");
+        x.speed(1, 50);
+        next("of three", x, "39601/99 1 2");
+        x.gone(1);
+        past("with 1 GONE at 400", x, 0, "0:");
+        next("with 1 GONE at 400", x, "20001/50 0 2");
     }
 }

@@ -18,16 +18,19 @@ final class MomentsTest {
         promise12Closest();
         promise12Heaps();
         promise12Refusals();
+        pastAndForetold();
+        tenAlike();
+        asFarAsCanBe();
         CHECK.end();
     }
 
-    private static void place(KeptMoving x, int i, int n, int d, long upper, long lower) {
+    private static void place(Subject x, int i, int n, int d, long upper, long lower) {
         CHECK.due("place(" + i + ", " + n + ", " + d + ", 0)", x.place(i, n, d, 0), upper);
         CHECK.due("place(" + i + ", " + n + ", " + d + ", 1)", x.place(i, n, d, 1), lower);
     }
 
     private static void promise9Place() {
-        KeptMoving x = new KeptMoving();
+        Subject x = new Subject();
         x.go(2);
         x.point(-3, 2);
         x.go(4);
@@ -45,7 +48,7 @@ final class MomentsTest {
     }
 
     private static void promise9Refusals() {
-        KeptMoving x = new KeptMoving();
+        Subject x = new Subject();
         x.go(2);
         x.point(0, 1);
         CHECK.due("before it came", x.place(0, 399, 200, 0), NOT);
@@ -61,7 +64,7 @@ final class MomentsTest {
         CHECK.refused("place not there", x, y -> y.place(0, 0, 1, 0), NOT);
     }
 
-    private static void order(KeptMoving x, int n, int d, int... wants) {
+    private static void order(Subject x, int n, int d, int... wants) {
         for (int k = 0; k < wants.length; k++) {
             CHECK.due("order(" + n + ", " + d + ", " + k + ")", x.order(n, d, k), wants[k]);
         }
@@ -69,7 +72,7 @@ final class MomentsTest {
     }
 
     private static void promise10Order() {
-        KeptMoving x = new KeptMoving();
+        Subject x = new Subject();
         x.point(10, -1);
         x.point(0, 1);
         x.point(5, 0);
@@ -93,7 +96,7 @@ final class MomentsTest {
         CHECK.refused("order(1, 201, 0)", x, y -> y.order(1, 201, 0), OUTSIDE);
     }
 
-    private static void kept(KeptMoving x, int... wants) {
+    private static void kept(Subject x, int... wants) {
         for (int k = 0; k < wants.length; k++) {
             CHECK.due("kept(" + k + ") at " + x.count(0), x.kept(k), wants[k]);
         }
@@ -102,7 +105,7 @@ final class MomentsTest {
     }
 
     private static void promise11Kept() {
-        KeptMoving x = new KeptMoving();
+        Subject x = new Subject();
         kept(x);
         x.point(10, -1);
         kept(x, 0);
@@ -125,7 +128,7 @@ final class MomentsTest {
         CHECK.due("kept(least)", x.kept(LEAST), NONE);
     }
 
-    private static void at(KeptMoving x, int n, int d, int there, int foremost, int one, int other) {
+    private static void at(Subject x, int n, int d, int there, int foremost, int one, int other) {
         int[] wants = {there, foremost, one, other};
         for (int what = 0; what <= 3; what++) {
             CHECK.due("at(" + n + ", " + d + ", " + what + ", 0)", x.at(n, d, what, 0), wants[what]);
@@ -133,7 +136,7 @@ final class MomentsTest {
     }
 
     private static void promise12At() {
-        KeptMoving x = new KeptMoving();
+        Subject x = new Subject();
         at(x, 0, 1, 0, NONE, NONE, NONE);
         x.go(1);
         x.point(0, 2);
@@ -153,7 +156,7 @@ final class MomentsTest {
     }
 
     private static void promise12Closest() {
-        KeptMoving x = new KeptMoving();
+        Subject x = new Subject();
         x.point(20, 0);
         x.point(0, 0);
         x.point(10, 0);
@@ -172,7 +175,7 @@ final class MomentsTest {
     }
 
     private static void promise12Heaps() {
-        KeptMoving x = new KeptMoving();
+        Subject x = new Subject();
         CHECK.due("HEAPS without points", x.at(0, 1, 4, 0), 0);
         x.point(-1000, 0);
         CHECK.due("HEAPS of one", x.at(0, 1, 4, 0), 1);
@@ -188,7 +191,7 @@ final class MomentsTest {
     }
 
     private static void promise12Refusals() {
-        KeptMoving x = new KeptMoving();
+        Subject x = new Subject();
         x.point(0, 0);
         int[][] outside = {{-1, 1, 0, 0}, {601, 1, 0, 0}, {0, 0, 0, 0}, {0, 201, 0, 0}, {0, 1, -1, 0}, {0, 1, 5, 0},
             {0, 1, 0, -1}, {0, 1, 0, 2001}, {0, 1, 4, 2001}, {MOST, MOST, MOST, MOST}, {LEAST, LEAST, LEAST, LEAST}};
@@ -196,5 +199,78 @@ final class MomentsTest {
             CHECK.refused("at(" + row[0] + ", " + row[1] + ", " + row[2] + ", " + row[3] + ")", x,
                     y -> y.at(row[0], row[1], row[2], row[3]), OUTSIDE);
         }
+    }
+
+    /** A MOMENT at NOW is of the PAST, and no later law changes it; what is above NOW goes by the laws as they are. */
+    private static void pastAndForetold() {
+        Subject x = new Subject();
+        x.point(0, 1);
+        x.point(6, -1);
+        x.go(2);
+        place(x, 0, 401, 200, 401, 200);
+        order(x, 7, 2, 1, 0);
+        at(x, 7, 2, 2, 0, 1, 0);
+        x.speed(0, -1);
+        place(x, 0, 399, 200, 399, 200);
+        place(x, 0, 2, 1, 2, 1);
+        place(x, 0, 401, 200, 399, 200);
+        order(x, 7, 2, 0, 1);
+        at(x, 7, 2, 2, 1, 0, 1);
+        x.gone(1);
+        order(x, 399, 200, 0, 1);
+        at(x, 399, 200, 2, 1, 0, 1);
+        order(x, 2, 1, 0);
+        at(x, 2, 1, 1, 0, NONE, NONE);
+        order(x, 7, 2, 0);
+        at(x, 7, 2, 1, 0, NONE, NONE);
+        x.point(-9, 0);
+        order(x, 399, 200, 0, 1);
+        order(x, 2, 1, 2, 0);
+        order(x, 600, 1, 0, 2);
+        x.back(0);
+        order(x, 7, 2, 1, 0);
+    }
+
+    /** Of like ones the least number is the first, the most the FOREMOST, and the first two are CLOSEST. */
+    private static void tenAlike() {
+        Subject x = new Subject();
+        for (int i = 0; i < 10; i++) {
+            x.point(5, 7);
+        }
+        order(x, 0, 1, 0, 1, 2, 3, 4, 5, 6, 7, 8, 9);
+        order(x, 119999, 200, 0, 1, 2, 3, 4, 5, 6, 7, 8, 9);
+        kept(x, 0, 1, 2, 3, 4, 5, 6, 7, 8, 9);
+        at(x, 0, 1, 10, 9, 0, 1);
+        CHECK.due("HEAPS of ten alike", x.at(0, 1, 4, 0), 1);
+        x.go(1);
+        x.gone(0);
+        x.gone(9);
+        order(x, 1, 1, 1, 2, 3, 4, 5, 6, 7, 8);
+        kept(x, 1, 2, 3, 4, 5, 6, 7, 8);
+        at(x, 1, 1, 8, 8, 1, 2);
+        for (int i = 1; i < 9; i++) {
+            x.speed(i, 50 - i);
+        }
+        order(x, 201, 200, 8, 7, 6, 5, 4, 3, 2, 1);
+        at(x, 201, 200, 8, 1, 8, 7);
+        CHECK.due("HEAPS right behind", x.at(201, 200, 4, 0), 8);
+        CHECK.due("HEAPS a little later", x.at(2, 1, 4, 1), 1);
+        CHECK.due("HEAPS right behind that", x.at(401, 200, 4, 1), 8);
+    }
+
+    /** The widest WIDTH, and PLACES that are farthest apart. */
+    private static void asFarAsCanBe() {
+        Subject x = new Subject();
+        x.point(-1000, -50);
+        x.point(1000, 50);
+        CHECK.due("HEAPS at 0", x.at(0, 1, 4, 2000), 1);
+        CHECK.due("HEAPS at 0 by 1999", x.at(0, 1, 4, 1999), 2);
+        CHECK.due("HEAPS right behind 0", x.at(1, 200, 4, 2000), 2);
+        place(x, 0, 600, 1, -31000, 1);
+        place(x, 1, 119999, 200, 123999, 4);
+        place(x, 0, 119399, 199, -6168950, 199);
+        at(x, 120000, 200, 2, 1, 0, 1);
+        order(x, 120000, 200, 0, 1);
+        CHECK.due("HEAPS at 600", x.at(120000, 200, 4, 2000), 2);
     }
 }

@@ -1,4 +1,4 @@
-/** Promises 1 to 8: POINTS that come, turn and go; NOW on and back; what is counted and told. */
+/** Promises 1 to 5, 7 and 8: POINTS that come, turn and go; NOW goes on; what is counted and told. */
 final class PointsTest {
     private static final int NONE = KeptMoving.NONE;
     private static final int UNKNOWN = KeptMoving.UNKNOWN;
@@ -11,19 +11,24 @@ final class PointsTest {
     public static void main(String[] args) {
         promise1New();
         promise2Point();
+        promise2FirstAndLast();
         promise3Speed();
         promise3Full();
+        promise3FromNowOn();
         promise4Gone();
+        promise4FirstAndLast();
         promise5Go();
-        promise6Back();
-        promise6BackTakesBackMeetings();
+        promise5UpToTheLast();
         promise7Count();
+        promise7MeetingsUpToNow();
+        promise7HowMany();
         promise8Told();
+        promise8FirstAndLast();
         CHECK.end();
     }
 
     private static void promise1New() {
-        KeptMoving x = new KeptMoving();
+        Subject x = new Subject();
         for (int what = 0; what <= 5; what++) {
             CHECK.due("count(" + what + ") of a new object", x.count(what), 0);
         }
@@ -36,7 +41,7 @@ final class PointsTest {
     }
 
     private static void promise2Point() {
-        KeptMoving x = new KeptMoving();
+        Subject x = new Subject();
         CHECK.refused("point(1001, 0)", x, y -> y.point(1001, 0), OUTSIDE);
         CHECK.refused("point(-1001, 0)", x, y -> y.point(-1001, 0), OUTSIDE);
         CHECK.refused("point(0, 51)", x, y -> y.point(0, 51), OUTSIDE);
@@ -63,8 +68,38 @@ final class PointsTest {
         CHECK.due("a point after back", x.point(0, 0), 2);
     }
 
+    /** The first number is 0, the last one 9; a POINT is there at once, at the last NOW, too. */
+    private static void promise2FirstAndLast() {
+        Subject x = new Subject();
+        for (int i = 0; i < 5; i++) {
+            CHECK.due("POINT " + i + " at 0", x.point(7, 1), i);
+            CHECK.due("how many are there", x.count(2), i + 1);
+            CHECK.due("the last one kept", x.kept(i), i);
+        }
+        x.go(3);
+        for (int i = 0; i < 5; i++) {
+            x.gone(i);
+        }
+        goToTheLast(x);
+        for (int i = 5; i < 10; i++) {
+            CHECK.due("POINT " + i + " at 400", x.point(-7, -50), i);
+            CHECK.due("its place at 400", x.place(i, 400, 1, 0), -7);
+            CHECK.due("its place at 600", x.place(i, 600, 1, 0), -10007);
+        }
+        CHECK.refused("an 11th POINT, five being GONE", x, y -> y.point(0, 0), FULL);
+        for (int i = 0; i < 10; i++) {
+            CHECK.due("when " + i + " came", x.told(i, 0), i < 5 ? 0 : 400);
+        }
+    }
+
+    private static void goToTheLast(Subject x) {
+        for (int step = 0; step < 4; step++) {
+            x.go(Math.min(100, 400 - x.count(0)));
+        }
+    }
+
     private static void promise3Speed() {
-        KeptMoving x = new KeptMoving();
+        Subject x = new Subject();
         CHECK.refused("speed(0, 1) without points", x, y -> y.speed(0, 1), UNKNOWN);
         x.point(10, 4);
         CHECK.refused("speed(-1, 51)", x, y -> y.speed(-1, 51), UNKNOWN);
@@ -92,7 +127,7 @@ final class PointsTest {
     }
 
     private static void promise3Full() {
-        KeptMoving x = new KeptMoving();
+        Subject x = new Subject();
         x.point(0, 0);
         for (int piece = 2; piece <= 8; piece++) {
             x.go(1);
@@ -110,8 +145,34 @@ final class PointsTest {
         CHECK.due("an 8th PIECE again", x.speed(0, 1), 7);
     }
 
+    /** Up to NOW, and at NOW itself, PLACES are what they were; FULL is one POINT's own. */
+    private static void promise3FromNowOn() {
+        Subject x = new Subject();
+        x.point(0, 50);
+        x.point(0, 1);
+        goToTheLast(x);
+        CHECK.due("speed(0, -50) at 400", x.speed(0, -50), 50);
+        CHECK.due("the place right before", x.place(0, 79999, 200, 0), 79999);
+        CHECK.due("its lower number", x.place(0, 79999, 200, 1), 4);
+        CHECK.due("the place at NOW", x.place(0, 400, 1, 0), 20000);
+        CHECK.due("the place right behind", x.place(0, 80001, 200, 0), 79999);
+        CHECK.due("the place at 600", x.place(0, 600, 1, 0), 10000);
+        CHECK.due("the other one's place at 600", x.place(1, 600, 1, 0), 600);
+        CHECK.due("the other one's PIECES", x.told(1, 2), 1);
+        x.back(100);
+        for (int piece = 2; piece <= 8; piece++) {
+            x.go(1);
+            x.speed(0, 0);
+        }
+        x.go(1);
+        CHECK.refused("a 9th PIECE of 0", x, y -> y.speed(0, 1), FULL);
+        CHECK.due("a 2nd PIECE of 1", x.speed(1, 9), 1);
+        CHECK.due("PIECES of 0", x.told(0, 2), 8);
+        CHECK.due("PIECES of 1", x.told(1, 2), 2);
+    }
+
     private static void promise4Gone() {
-        KeptMoving x = new KeptMoving();
+        Subject x = new Subject();
         CHECK.refused("gone(0) without points", x, y -> y.gone(0), UNKNOWN);
         x.point(5, 1);
         x.point(6, 0);
@@ -131,8 +192,30 @@ final class PointsTest {
         CHECK.due("there", x.count(2), 0);
     }
 
+    /** The first NOW at which it can be GONE is the one after it came; the last is 400. */
+    private static void promise4FirstAndLast() {
+        Subject x = new Subject();
+        x.go(4);
+        x.point(0, 1);
+        CHECK.refused("gone(0) when it came", x, y -> y.gone(0), NOT);
+        x.go(1);
+        CHECK.due("gone(0) one later", x.gone(0), 1);
+        CHECK.due("told(0, 1)", x.told(0, 1), 5);
+        CHECK.due("when it came it was there", x.at(4, 1, 0, 0), 1);
+        CHECK.due("right before NOW it was there", x.at(999, 200, 0, 0), 1);
+        CHECK.due("at NOW it is not", x.at(5, 1, 0, 0), 0);
+        x.point(3, 0);
+        goToTheLast(x);
+        CHECK.due("gone(1) at 400", x.gone(1), 1);
+        CHECK.refused("gone(1) at 400 again", x, y -> y.gone(1), NOT);
+        CHECK.due("right before 400 it was there", x.place(1, 79999, 200, 0), 3);
+        CHECK.due("at 400 it is not", x.place(1, 400, 1, 0), NOT);
+        x.point(8, 0);
+        CHECK.refused("gone(2) at 400, when it came", x, y -> y.gone(2), NOT);
+    }
+
     private static void promise5Go() {
-        KeptMoving x = new KeptMoving();
+        Subject x = new Subject();
         CHECK.due("go(0)", x.go(0), 0);
         CHECK.refused("go(-1)", x, y -> y.go(-1), OUTSIDE);
         CHECK.refused("go(101)", x, y -> y.go(101), OUTSIDE);
@@ -149,61 +232,21 @@ final class PointsTest {
         CHECK.due("NOW", x.count(0), 400);
     }
 
-    private static void promise6Back() {
-        KeptMoving x = new KeptMoving();
-        CHECK.refused("back(1) at 0", x, y -> y.back(1), NOT);
-        CHECK.refused("back(-1)", x, y -> y.back(-1), OUTSIDE);
-        CHECK.refused("back(101)", x, y -> y.back(101), OUTSIDE);
-        x.point(0, 1);
-        CHECK.due("back(0) at 0", x.back(0), 0);
-        CHECK.due("points after back(0)", x.count(1), 0);
-        x.point(0, 1);
-        x.point(9, 0);
-        x.go(5);
-        x.speed(0, 2);
-        x.point(7, 7);
-        x.gone(1);
-        CHECK.due("back(0)", x.back(0), 5);
-        CHECK.due("points", x.count(1), 2);
-        CHECK.due("PIECES", x.told(0, 2), 1);
-        CHECK.due("SPEED", x.told(0, 3), 1);
-        CHECK.due("when 1 was GONE", x.told(1, 1), NONE);
-        x.speed(0, 3);
-        x.gone(1);
-        x.go(2);
-        x.point(1, 1);
-        x.speed(0, 4);
-        CHECK.due("back(1)", x.back(1), 6);
-        CHECK.due("what began before stays", x.told(0, 3), 3);
-        CHECK.due("GONE before stays", x.told(1, 1), 5);
-        CHECK.due("points", x.count(1), 2);
-        CHECK.refused("back(7) at 6", x, y -> y.back(7), NOT);
-        CHECK.refused("back(101) at 6", x, y -> y.back(101), OUTSIDE);
-        CHECK.due("back(1) to when it was done", x.back(1), 5);
-        CHECK.due("what began there", x.told(0, 3), 1);
-        CHECK.due("GONE there", x.told(1, 1), NONE);
-        CHECK.due("what went by the old law again", x.place(0, 10, 1, 0), 10);
-        CHECK.due("back(5)", x.back(5), 0);
-        CHECK.due("points that came at 0", x.count(1), 0);
-    }
-
-    private static void promise6BackTakesBackMeetings() {
-        KeptMoving x = new KeptMoving();
-        x.point(0, 2);
-        x.point(10, 0);
-        x.go(6);
-        CHECK.dueText("meetings", Snapshot.meetings(x), "1: 5/1 0 1");
-        x.back(1);
-        CHECK.dueText("a MEETING at NOW stays", Snapshot.meetings(x), "1: 5/1 0 1");
-        x.back(1);
-        CHECK.dueText("a MEETING taken back", Snapshot.meetings(x), "0:");
-        CHECK.dueText("it is THE NEXT one", Snapshot.meeting(x, NONE), "5/1 0 1");
-        x.speed(0, 1);
-        CHECK.dueText("THE NEXT by the new law", Snapshot.meeting(x, NONE), "6/1 0 1");
+    /** To 400 itself by any step, but not above it. */
+    private static void promise5UpToTheLast() {
+        for (int step : new int[] {1, 2, 50, 99, 100}) {
+            Subject x = new Subject();
+            goToTheLast(x);
+            x.back(step - 1);
+            CHECK.refused("go(" + step + ") to 401", x, y -> y.go(step), NOT);
+            CHECK.due("go(" + (step - 1) + ") to 400", x.go(step - 1), 400);
+            CHECK.refused("go(" + step + ") at 400", x, y -> y.go(step), NOT);
+            CHECK.due("NOW", x.count(0), 400);
+        }
     }
 
     private static void promise7Count() {
-        KeptMoving x = new KeptMoving();
+        Subject x = new Subject();
         x.point(0, 3);
         CHECK.due("WATCHED of one", x.count(5), 0);
         x.point(10, -2);
@@ -219,8 +262,57 @@ final class PointsTest {
         countsPassesByTheLawsAsTheyAre();
     }
 
+    /** A MEETING at NOW is of the PAST, one above NOW, however little, is not. */
+    private static void promise7MeetingsUpToNow() {
+        Subject x = new Subject();
+        x.point(0, 50);
+        x.point(100, 0);
+        x.point(101, 0);
+        x.go(1);
+        counted(x, 0, 0);
+        x.go(1);
+        counted(x, 1, 1);
+        x.go(1);
+        counted(x, 2, 2);
+        x.gone(0);
+        counted(x, 2, 2);
+        x.back(0);
+        x.back(1);
+        counted(x, 1, 1);
+        x.speed(0, 0);
+        counted(x, 1, 0);
+    }
+
+    private static void counted(Subject x, int meetings, int passes) {
+        CHECK.due("MEETINGS at " + x.count(0), x.count(3), meetings);
+        CHECK.due("PASSES at " + x.count(0), x.count(4), passes);
+    }
+
+    /** Of POINTS that came, that are there, and of WATCHED pairs: none, one, all ten, and fewer again. */
+    private static void promise7HowMany() {
+        Subject x = new Subject();
+        howMany(x, 0, 0, 0);
+        for (int came = 1; came <= 10; came++) {
+            x.point(5, 0);
+            howMany(x, came, came, came - 1);
+        }
+        x.go(1);
+        for (int gone = 1; gone <= 10; gone++) {
+            x.gone(gone - 1);
+            howMany(x, 10, 10 - gone, Math.max(9 - gone, 0));
+        }
+        goToTheLast(x);
+        CHECK.due("NOW", x.count(0), 400);
+    }
+
+    private static void howMany(Subject x, int came, int there, int watched) {
+        CHECK.due("POINTS that came", x.count(1), came);
+        CHECK.due("how many are there", x.count(2), there);
+        CHECK.due("WATCHED pairs", x.count(5), watched);
+    }
+
     private static void countsPassesByTheLawsAsTheyAre() {
-        KeptMoving x = new KeptMoving();
+        Subject x = new Subject();
         x.point(0, 1);
         x.point(5, 0);
         x.go(5);
@@ -238,7 +330,7 @@ final class PointsTest {
     }
 
     private static void promise8Told() {
-        KeptMoving x = new KeptMoving();
+        Subject x = new Subject();
         x.point(0, 3);
         x.go(2);
         x.point(1, -1);
@@ -256,5 +348,38 @@ final class PointsTest {
         CHECK.due("told(0, -1)", x.told(0, -1), OUTSIDE);
         CHECK.due("told(2, 0)", x.told(2, 0), UNKNOWN);
         CHECK.due("told(-1, 9)", x.told(-1, 9), UNKNOWN);
+    }
+
+    /** The earliest and the latest times, the slowest and the fastest, one PIECE and eight. */
+    private static void promise8FirstAndLast() {
+        Subject x = new Subject();
+        x.point(0, -50);
+        told(x, 0, 0, NONE, 1, -50);
+        x.speed(0, 50);
+        told(x, 0, 0, NONE, 1, 50);
+        for (int piece = 2; piece <= 8; piece++) {
+            x.go(1);
+            x.speed(0, piece);
+            told(x, 0, 0, NONE, piece, piece);
+        }
+        x.gone(0);
+        told(x, 0, 0, 7, 8, 8);
+        goToTheLast(x);
+        told(x, 0, 0, 7, 8, 8);
+        x.point(0, 0);
+        told(x, 1, 400, NONE, 1, 0);
+        x.back(1);
+        x.point(0, 0);
+        x.go(1);
+        x.gone(1);
+        told(x, 1, 399, 400, 1, 0);
+        CHECK.due("told(1, 1) after back", x.back(0) + x.told(1, 1), 400 + NONE);
+    }
+
+    private static void told(Subject x, int i, int came, int gone, int pieces, int speed) {
+        int[] dues = {came, gone, pieces, speed};
+        for (int what = 0; what <= 3; what++) {
+            CHECK.due("told(" + i + ", " + what + ") at " + x.count(0), x.told(i, what), dues[what]);
+        }
     }
 }

@@ -3,7 +3,7 @@ final class Snapshot {
     private Snapshot() {
     }
 
-    static String of(KeptMoving x) {
+    static String of(Subject x) {
         StringBuilder text = new StringBuilder();
         for (int what = 0; what <= 5; what++) {
             text.append(x.count(what)).append(' ');
@@ -30,7 +30,7 @@ final class Snapshot {
     }
 
     /** Every SPAN of NEAR, FIRST or WITHIN as text: "2: 0/1-5/1 7/2-4/1"; here those of NEAR. */
-    static String near(KeptMoving x, int i, int j, int width, int end) {
+    static String near(Subject x, int i, int j, int width, int end) {
         int size = x.near(i, j, width, end, KeptMoving.NONE, 0);
         StringBuilder text = new StringBuilder().append(size).append(':');
         for (int k = 0; k < size; k++) {
@@ -40,7 +40,7 @@ final class Snapshot {
         return text.toString();
     }
 
-    static String first(KeptMoving x, int i, int end) {
+    static String first(Subject x, int i, int end) {
         int size = x.first(i, end, KeptMoving.NONE, 0);
         StringBuilder text = new StringBuilder().append(size).append(':');
         for (int k = 0; k < size; k++) {
@@ -49,7 +49,7 @@ final class Snapshot {
         return text.toString();
     }
 
-    static String within(KeptMoving x, int low, int high, int m, int end) {
+    static String within(Subject x, int low, int high, int m, int end) {
         int size = x.within(low, high, m, end, KeptMoving.NONE, 0);
         StringBuilder text = new StringBuilder().append(size).append(':');
         for (int k = 0; k < size; k++) {
@@ -60,7 +60,7 @@ final class Snapshot {
     }
 
     /** Every MEETING of the PAST as text: "2: 5/1 0 1, 35/4 0 1". */
-    static String meetings(KeptMoving x) {
+    static String meetings(Subject x) {
         int size = x.count(3);
         StringBuilder text = new StringBuilder().append(size).append(':');
         for (int k = 0; k < size; k++) {
@@ -69,7 +69,7 @@ final class Snapshot {
         return text.toString();
     }
 
-    static String meeting(KeptMoving x, int k) {
+    static String meeting(Subject x, int k) {
         return x.meeting(k, 0) + "/" + x.meeting(k, 1) + " " + x.meeting(k, 2) + " " + x.meeting(k, 3);
     }
 
