@@ -17,6 +17,7 @@ final class BackTest {
         pointsThatWereGone();
         allThatCameLaterToo();
         roomAgain();
+        anotherOneOfTheSameNumber();
         notWhatWasDoneBefore();
         goingOnAgain();
         meetings();
@@ -191,6 +192,35 @@ final class BackTest {
         x.go(1);
         CHECK.refused("an 11th POINT again", x, y -> y.point(0, 0), FULL);
         CHECK.refused("a 9th PIECE again", x, y -> y.speed(0, 0), FULL);
+    }
+
+    /** A POINT that comes after its number was taken back has nothing of the former one: PIECES, room for them, GONE. */
+    private static void anotherOneOfTheSameNumber() {
+        Subject x = new Subject();
+        x.go(1);
+        for (int life = 1; life <= 3; life++) {
+            CHECK.due("it comes", x.point(life, 0), 0);
+            isNew(x, life);
+            for (int piece = 2; piece <= 8; piece++) {
+                x.go(1);
+                CHECK.due("PIECE " + piece + " of life " + life, x.speed(0, piece), piece == 2 ? 0 : piece - 1);
+            }
+            CHECK.due("PIECES of life " + life, x.told(0, 2), 8);
+            x.go(1);
+            CHECK.due("GONE in life " + life, x.gone(0), 1);
+            CHECK.due("back to when it came", x.back(8), 1);
+        }
+    }
+
+    private static void isNew(Subject x, int place) {
+        int[] dues = {1, NONE, 1, 0};
+        for (int what = 0; what <= 3; what++) {
+            CHECK.due("told(0, " + what + ")", x.told(0, what), dues[what]);
+        }
+        for (int time = 1; time <= 600; time += 599) {
+            CHECK.due("its place at " + time, x.place(0, time, 1, 0), place);
+        }
+        CHECK.due("how many are there", x.count(2), 1);
     }
 
     private static void notWhatWasDoneBefore() {

@@ -181,6 +181,9 @@ final class MeetingsTest {
         x.speed(1, 1);
         x.go(1);
         x.speed(1, 0);
+        CHECK.dueText("near, foretold at 2", Snapshot.near(x, 0, 1, 0, 600), "1: 10/1-10/1");
+        CHECK.dueText("meeting 0 of none, where a law changes", Snapshot.meeting(x, 0), NO_MEETING);
+        past("with none, where a law changes", x, 0, "0:");
         x.go(1);
         CHECK.dueText("near, foretold", Snapshot.near(x, 0, 1, 0, 600), "1: 10/1-10/1");
         past("with none yet", x, 0, "0:");
